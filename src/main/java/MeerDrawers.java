@@ -20,8 +20,8 @@ public final class MeerDrawers {
     private static final int MOST_LOST = 99;
     private static final int NOT_IN_IT = -99;
 
-    private final Tape tape = new Tape();
-    private final Parser parser = new Parser(tape);
+    private final Parser parser = new Parser();
+    private final Tape tape = parser.tokens.tape;
     private final Orders orders = new Orders();
     private final Row standing = new Row();
     private final Row trial = new Row();
@@ -31,7 +31,6 @@ public final class MeerDrawers {
     private final int[] stayRow = new int[MOST_CARDS];
     private final int[] lengths = new int[MOST_CARDS];
     private Catalogue told = new Catalogue();
-    private Catalogue spare = new Catalogue();
     private int staySize = 0;
     private boolean hasImage = false;
     private long imageRow = 0;
@@ -60,19 +59,15 @@ public final class MeerDrawers {
         if (n < 0 || n > tape.length) {
             throw new IllegalArgumentException("the tape has not so many bytes");
         }
-        // A text with a fault must leave all as it is, so it is read into the spare one.
-        int found = parser.parse(n, spare);
+        int found = parser.parse(n);
         tape.length = 0;
-        if (found != Parser.NO_FAULT) {
-            faultPlace = parser.place;
+        faultPlace = parser.place;
+        if (found == Parser.NO_FAULT) {
+            told = parser.handOver(told);
+            beginAnew();
+        } else {
             refusedTexts++;
-            return found;
         }
-        faultPlace = NONE;
-        Catalogue old = told;
-        told = spare;
-        spare = old;
-        beginAnew();
         return found;
     }
 
@@ -759,7 +754,7 @@ public final class MeerDrawers {
 
     // ---- The classes inside ----
 
-    /** The bytes that were fed and not yet read. */
+    /** The bytes that were fed and not yet read as a text. */
     private static final class Tape {
         private final byte[] bytes = new byte[MOST_BYTES];
         private int length = 0;
@@ -790,17 +785,13 @@ public final class MeerDrawers {
         private static final int SIGN = 3;
         private static final int UNKNOWN = 4;
 
-        private final Tape tape;
+        private final Tape tape = new Tape();
         private int end = 0;
         private int start = 0;
         private int size = 0;
         private int kind = END;
         private int number = 0;
         private long word = 0;
-
-        Tokens(Tape tape) {
-            this.tape = tape;
-        }
 
         void open(int n) {
             end = n;
@@ -1075,7 +1066,10 @@ public final class MeerDrawers {
         }
     }
 
-    /** Reads a text into a catalogue, or finds its first fault. Its methods answer false behind a fault. */
+    /**
+     * Reads a text into a catalogue of its own (a text with a fault must leave all else as it is),
+     * or finds its first fault. Its methods answer false behind a fault.
+     */
     private static final class Parser {
         private static final int NO_FAULT = 0;
         private static final int MISPLACED = 1;
@@ -1090,18 +1084,20 @@ public final class MeerDrawers {
         private static final int MOST_NOTS = 6;
         private static final int NO_STEP = 0;
 
-        private final Tokens tokens;
+        private final Tokens tokens = new Tokens();
         private final Ties ties = new Ties();
-        private Catalogue told = null;
+        private Catalogue told = new Catalogue();
         private int found = NO_FAULT;
         private int place = NONE;
 
-        Parser(Tape tape) {
-            tokens = new Tokens(tape);
+        /** The catalogue that was read; the old one is written over by the next text. */
+        Catalogue handOver(Catalogue old) {
+            Catalogue read = told;
+            told = old;
+            return read;
         }
 
-        int parse(int n, Catalogue into) {
-            told = into;
+        int parse(int n) {
             told.clear();
             ties.size = 0;
             found = NO_FAULT;

@@ -33,6 +33,8 @@ public final class FaultTest {
         marked("clerk ^clerk;", 1);
         marked("^clerks;", 1);
         marked("^cler;", 1);
+        marked("^xlerk;", 1);
+        marked("^bard 5 a;", 1);
         marked("^Clerk;", 1);
         marked("clerk^!;", 1);
         marked("clerk;^\t", 1);

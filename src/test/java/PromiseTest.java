@@ -262,6 +262,8 @@ public final class PromiseTest {
         tieHolds("((0-3)/2+2)*(0-number)", false);
         tieHolds("year<5", true);
         tieHolds("5<year", false);
+        tieHolds("0-(year<7)", false);
+        tieHolds("7<year or year=3", true);
         tieHolds("not year<5", false);
         tieHolds("not not year=3", true);
         tieHolds("year=7 or year=3 and 0", false);
@@ -272,6 +274,14 @@ public final class PromiseTest {
         // 999700029999 wraps to -1027349969, 9898020099 to 1308085507.
         tieHolds("9999*9999*9999*number", false);
         tieHolds("9999*9999*99*number", true);
+        MeerDrawers again = new MeerDrawers();
+        for (int i = 0; i < 6; i++) {
+            // Long ties, one text behind the other: none may be cut short by those ahead of it.
+            String tie = "1+".repeat(300) + (i % 2 == 0 ? "year" : "number");
+            int due = i % 2;
+            due("a long tie", 0, () -> Check.tell(again, "card 7 a;card 3 a;clerk;tie " + tie + ";"));
+            due("a long tie " + due, due, () -> again.before(0, 0, 1) ? 1 : 0);
+        }
         MeerDrawers x = Check.told("clerk;tie letters*10+words;card 0 abc;card 0 a bc;card 0 ab c;clerk;join;tie words;"
                 + "clerk;join;tie 0-words;");
         due("words", 1, () -> x.before(1, 0, 1) ? 1 : 0);
@@ -401,10 +411,20 @@ public final class PromiseTest {
         due("even votes", 0, () -> z.votes(0, 2));
         due("no ring", -1, z::ring);
         due("no head by even votes", -1, z::head);
+        evenVotesMakeNoRing("clerk;fold a d;clerk;fold a d;clerk;fold a d;fold b e;clerk;", 0, 1);
+        evenVotesMakeNoRing("clerk;clerk;clerk;fold a d;clerk;fold a d;fold b e;", 2, 0);
+        evenVotesMakeNoRing("clerk;fold a d;fold b e;clerk;fold a d;fold b e;clerk;clerk;fold a d;", 1, 2);
         due("head", 2, () -> Check.told(MEER).head());
         due("head of one card without clerks", 0, () -> Check.told("card 0 a;").head());
         due("head of two cards without clerks", -1, () -> Check.told("card 0 a;card 0 b;").head());
         due("head of none", -1, () -> Check.told("clerk;").head());
+    }
+
+    /** Four clerks who would make a ring, were it not for two cards with as many for as against. */
+    private static void evenVotesMakeNoRing(String clerks, int card, int other) {
+        MeerDrawers x = Check.told("card 0 a;card 0 b;card 0 c;" + clerks);
+        due("even", 0, () -> x.votes(card, other));
+        due("no ring by " + clerks, -1, x::ring);
     }
 
     private static void promises22And23() {
