@@ -1201,7 +1201,7 @@ public final class MeerDrawers {
             if (clerk < 0 || told.rules[clerk] >= MOST_RULES) {
                 return refuse(TOO_MUCH);
             }
-            int kind = tokens.isWord("skip") ? Catalogue.SKIP : tokens.isWord("spell") ? Catalogue.SPELL : Catalogue.FOLD;
+            int kind = ruleKindHere();
             int letters = kind == Catalogue.FOLD ? 1 : MOST_LETTERS;
             tokens.step();
             if (!isWordUpTo(letters)) {
@@ -1222,6 +1222,13 @@ public final class MeerDrawers {
             told.addRule(kind, from, tokens.word);
             tokens.step();
             return true;
+        }
+
+        private int ruleKindHere() {
+            if (tokens.isWord("skip")) {
+                return Catalogue.SKIP;
+            }
+            return tokens.isWord("spell") ? Catalogue.SPELL : Catalogue.FOLD;
         }
 
         private boolean takeOnce(boolean[] ofClerks) {
