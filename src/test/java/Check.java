@@ -43,6 +43,41 @@ final class Check {
         due(call, ILLEGAL, made);
     }
 
+    void holds(String fact, boolean holds) {
+        due(fact, 1, () -> holds ? 1 : 0);
+    }
+
+    /** A text told to a new object: its fault (0: none), the place, and what else is promised then. */
+    void fault(String text, int fault, int place) {
+        MeerDrawers x = new MeerDrawers();
+        due("catalogue of " + text, fault, () -> tell(x, text));
+        due("fault() of " + text, place, x::fault);
+        due("count(6) of " + text, fault == 0 ? 0 : 1, () -> x.count(6));
+        due("count(5) of " + text, 0, () -> x.count(5));
+        if (fault != 0) {
+            due("count(0) of " + text, 0, () -> x.count(0));
+            due("count(1) of " + text, 0, () -> x.count(1));
+        }
+    }
+
+    /** A text whose fault stands where the sign ^ does (the sign itself is left out). */
+    void marked(String text, int fault) {
+        fault(text.replace("^", ""), fault, text.indexOf('^'));
+    }
+
+    void fine(String text) {
+        fault(text, 0, -1);
+    }
+
+    /** What stands in the drawer, from the first place on. */
+    void rowIs(String name, MeerDrawers x, int... cards) {
+        due(name + ": how many", cards.length, () -> x.count(2));
+        for (int i = 0; i < cards.length; i++) {
+            int place = i;
+            due(name + ": place " + place, cards[place], () -> x.drawer(place));
+        }
+    }
+
     private static String shown(long answer) {
         if (answer == NO_SUCH) {
             return "throws.NoSuchElementException";

@@ -2,22 +2,12 @@
 public final class FaultTest {
     private static final Check CHECK = new Check();
 
-    private static void fault(String text, int fault, int place) {
-        MeerDrawers x = new MeerDrawers();
-        CHECK.due("catalogue of " + text, fault, () -> Check.tell(x, text));
-        CHECK.due("fault() of " + text, place, x::fault);
-        CHECK.due("count(6) of " + text, fault == 0 ? 0 : 1, () -> x.count(6));
-        CHECK.due("count(5) of " + text, 0, () -> x.count(5));
-    }
-
-    /** A text whose fault stands where the sign ^ does (the sign itself is left out). */
     private static void marked(String text, int fault) {
-        int place = text.indexOf('^');
-        fault(text.replace("^", ""), fault, place);
+        CHECK.marked(text, fault);
     }
 
     private static void fine(String text) {
-        fault(text, 0, -1);
+        CHECK.fine(text);
     }
 
     private static void tokens() {

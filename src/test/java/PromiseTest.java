@@ -24,11 +24,7 @@ public final class PromiseTest {
     }
 
     private static void rowIs(String name, MeerDrawers x, int... cards) {
-        due(name + ": how many", cards.length, () -> x.count(2));
-        for (int i = 0; i < cards.length; i++) {
-            int place = i;
-            due(name + ": place " + place, cards[place], () -> x.drawer(place));
-        }
+        CHECK.rowIs(name, x, cards);
     }
 
     private static void keyIs(MeerDrawers x, int clerk, int card, String key) {
