@@ -33,20 +33,22 @@ final class Answers {
     }
 
     private void catalogue() {
-        for (int card = 0; card < x.count(0); card++) {
+        int cards = x.count(0);
+        int clerks = x.count(1);
+        for (int card = 0; card < cards; card++) {
             for (int what = 0; what < 5; what++) {
                 int c = card;
                 int w = what;
                 ask("card " + c + " " + w, () -> x.card(c, w));
             }
         }
-        for (int clerk = 0; clerk < x.count(1); clerk++) {
+        for (int clerk = 0; clerk < clerks; clerk++) {
             for (int what = 0; what < 7; what++) {
                 int k = clerk;
                 int w = what;
                 ask("clerk " + k + " " + w, () -> x.clerk(k, w));
             }
-            for (int card = 0; card < x.count(0); card++) {
+            for (int card = 0; card < cards; card++) {
                 keyAndRank(clerk, card);
             }
         }
@@ -54,11 +56,9 @@ final class Answers {
 
     private void keyAndRank(int clerk, int card) {
         ask("rank " + clerk + " " + card, () -> x.rank(clerk, card));
-        long length = ask("key of " + clerk + " " + card, () -> x.key(clerk, card, -1));
-        for (int i = 0; i < Math.min(length, 4); i++) {
-            int at = i;
-            ask("key of " + clerk + " " + card + " at " + at, () -> x.key(clerk, card, at));
-        }
+        int length = (int) ask("key of " + clerk + " " + card, () -> x.key(clerk, card, -1));
+        ask("the first of it", () -> x.key(clerk, card, 0));
+        ask("the last of it", () -> x.key(clerk, card, length - 1));
     }
 
     private void drawer() {
@@ -84,7 +84,8 @@ final class Answers {
             ask("closest " + asked, () -> x.closest(asked));
             ask("years " + asked, () -> x.years(77, 60, asked));
         }
-        for (int i = -1; i < x.count(0); i++) {
+        int cards = x.count(0);
+        for (int i = -1; i < cards; i++) {
             int at = i;
             ask("compromise " + at, () -> x.compromise(at));
         }

@@ -432,11 +432,14 @@ public final class QuestionBoundsTest {
         noSuch("no such what without cards", () -> new MeerDrawers().years(5, 61, 3));
         for (int what = 0; what < 3; what++) {
             int asked = what;
-            due("without clerks", 0, () -> Check.told(TEN).years(5, 60, asked));
-            due("without cards", 0, () -> Check.told(FORTH).years(5, 60, asked));
+            for (int n : new int[] {0, 1, 59, 60}) {
+                due("without clerks, " + n, 0, () -> Check.told(TEN).years(5, n, asked));
+                due("without cards, " + n, 0, () -> Check.told(FORTH).years(5, n, asked));
+            }
         }
         due("no years: the drawer as it is", 10, () -> full(BACK + FORTH).years(5, 0, 1));
         due("no years: wrong by clerk 0", 45, () -> full(BACK + FORTH).years(5, 0, 2));
+        due("no years: wrong by the only clerk", 45, () -> full(BACK).years(5, 0, 2));
         due("no years: none missed", 0, () -> full(BACK + FORTH).years(5, 0, 0));
         for (int seed : new int[] {0, 1, -1, 7, 65536, Integer.MAX_VALUE, Integer.MIN_VALUE, 0x7fff0000, 0x80000001}) {
             drawsOf(seed);

@@ -5,11 +5,15 @@ import java.util.Random;
 public final class RandomRunTest {
     private static final Check CHECK = new Check();
 
+    /** Nothing is promised of an object behind its 512th call; a step makes fewer than 30, a text fewer than 40. */
+    private static final int MOST_CALLS = 440;
+
     private final MeerDrawers x = new MeerDrawers();
     private final RandomTexts texts;
     private final Random random;
     private final String run;
     private Model model = new Model();
+    private int calls = 0;
 
     private RandomRunTest(long seed) {
         texts = new RandomTexts(seed);
@@ -18,6 +22,7 @@ public final class RandomRunTest {
     }
 
     private void due(String call, long want, Check.Call made) {
+        calls++;
         CHECK.due(run + call, want, made);
     }
 
@@ -27,6 +32,7 @@ public final class RandomRunTest {
         String text = texts.tell(next, mostCards, 4);
         next.refusedActs = model.refusedActs;
         due("catalogue of " + text, 0, () -> Check.tell(x, text));
+        calls += text.length() / 20 + 1;
         model = next;
     }
 
@@ -75,7 +81,10 @@ public final class RandomRunTest {
             default:
                 imageOrRestore();
         }
-        drawerStands();
+        // Not behind each act: calls are few, and what went wrong is still seen later.
+        if (random.nextInt(3) == 0) {
+            drawerStands();
+        }
     }
 
     private void imageOrRestore() {
@@ -250,8 +259,8 @@ public final class RandomRunTest {
         due("fault", -1, x::fault);
     }
 
-    private void go(int steps) {
-        for (int i = 0; i < steps && CHECK.isClean(); i++) {
+    private void go(int mostCalls) {
+        while (calls < mostCalls && CHECK.isClean()) {
             if (random.nextInt(12) == 0) {
                 askOfAll();
             }
@@ -266,13 +275,13 @@ public final class RandomRunTest {
     }
 
     public static void main(String[] args) {
-        int runs = args.length > 0 ? Integer.parseInt(args[0]) : 400;
+        int runs = args.length > 0 ? Integer.parseInt(args[0]) : 1000;
         for (int seed = 1; seed <= runs && CHECK.isClean(); seed++) {
             RandomRunTest test = new RandomRunTest(seed);
-            test.go(5);
-            for (int text = 0; text < 2; text++) {
+            test.go(20);
+            for (int text = 1; text <= 2; text++) {
                 test.tell();
-                test.go(90);
+                test.go(MOST_CALLS * text / 2);
             }
         }
         CHECK.end();

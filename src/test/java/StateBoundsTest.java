@@ -157,7 +157,31 @@ public final class StateBoundsTest {
         due("no cards", 0, () -> x.count(0));
         due("no clerks", 0, () -> x.count(1));
         due("the tape is empty", 0, () -> x.count(5));
+        cutWithin();
         fullToSmallAndBack();
+    }
+
+    /** Of a token only those of the first n bytes count, whatever goes on behind them. */
+    private static void cutWithin() {
+        cut("card 5 abcdefgh", "ijkl;", 1, 15);
+        cut("card 999", "999 a", 1, 8);
+        cut("clerk;tie 9999", "999999", 1, 14);
+        cut("clerk;tie year", "s;    ", 1, 14);
+        cut("clerk;tie yea", "r;     ", 3, 10);
+        cut("clerk;fold a", " b;     ", 1, 12);
+        cut("clerk;fold a b", "c;    ", 1, 14);
+        cut("clerk", ";clerk;clerk;  ", 1, 5);
+        cut("clerk;", "oops          ", 0, -1);
+        cut("clerk;clerk;", "turn;tie", 0, -1);
+        cut("card 5 a; ", "(((((((((", 0, -1);
+    }
+
+    private static void cut(String text, String behind, int fault, int place) {
+        MeerDrawers x = new MeerDrawers();
+        Check.feed(x, (text + behind).getBytes(StandardCharsets.ISO_8859_1));
+        due(text + " | " + behind, fault, () -> x.catalogue(text.length()));
+        due(text + " | " + behind + ": its place", place, x::fault);
+        due(text + " | " + behind + ": the tape", 0, () -> x.count(5));
     }
 
     /** "all anew": nothing of a greater catalogue shines through a lesser one, nor of a text with a fault. */
@@ -289,6 +313,9 @@ public final class StateBoundsTest {
             noSuch("clerk 0 " + what, () -> empty.clerk(0, what));
         }
         due("without cards", 0, () -> Check.told("clerk;").clerk(0, 6));
+        due("one card in all", 1, () -> Drawers.standing("card 0 a;clerk;", 0).clerk(0, 6));
+        due("only the first card needs two looks", 2, () -> Drawers.standing("card 0 c;card 0 b;card 0 a;clerk;", 1, 2)
+                .clerk(0, 6));
         // In b a only c, which is not in it, needs a second look.
         MeerDrawers x = Drawers.standing("card 0 b;card 0 a;card 0 c;clerk;", 0, 1);
         due("looks for a card that is out", 2, () -> x.clerk(0, 6));
