@@ -10,6 +10,8 @@ public final class AnewTest {
         "card 5 a;",
         "clerk;turn;join;tie 1;skip a;",
         "card 0 b;card 0 a;clerk;",
+        "card 0 a;card 0 b;clerk;",
+        "card 0 a;card 0 ab;card 0 b;card 0 b a;clerk;clerk;turn;clerk;join;",
         "card 1 c b;card 9 c;card 0 b a;clerk;clerk;turn;clerk;join;tie 0-year;clerk;fold c a;skip b;",
         "card 3 zzzzzzzz zzzzzzzz zzzzzzzz zzzzzzzz;".repeat(9) + "card 3 y;clerk;tie 0-number;clerk;fold z a;tie number;"
             + "clerk;spell zzzzzzzz b;skip b;clerk;turn;join;",
