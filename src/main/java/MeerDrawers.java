@@ -1105,7 +1105,7 @@ public final class MeerDrawers {
             tokens.open(n);
             for (int line = 0; line < MOST_BYTES && found == NO_FAULT && tokens.kind != Tokens.END; line++) {
                 if (takeLine()) {
-                    takeSign(';');
+                    endLine();
                 }
             }
             if (found == NO_FAULT) {
@@ -1120,12 +1120,12 @@ public final class MeerDrawers {
             return false;
         }
 
-        private boolean takeSign(char sign) {
-            if (!tokens.isSign(sign)) {
-                return refuse(MISPLACED);
+        private void endLine() {
+            if (tokens.isSign(';')) {
+                tokens.step();
+            } else {
+                refuse(MISPLACED);
             }
-            tokens.step();
-            return true;
         }
 
         private boolean takeLine() {
@@ -1355,9 +1355,13 @@ public final class MeerDrawers {
         private boolean takePart(int around) {
             if (tokens.isSign('(')) {
                 tokens.step();
-                return takeExpression(around + 1) && takeSign(')');
-            }
-            if (tokens.kind == Tokens.NUMBER) {
+                if (!takeExpression(around + 1)) {
+                    return false;
+                }
+                if (!tokens.isSign(')')) {
+                    return refuse(MISPLACED);
+                }
+            } else if (tokens.kind == Tokens.NUMBER) {
                 if (tokens.size > MOST_DIGITS) {
                     return refuse(TOO_MUCH);
                 }
