@@ -1,31 +1,30 @@
+import java.io.IOException;
 import java.lang.reflect.Constructor;
 import java.lang.reflect.Field;
 import java.lang.reflect.Method;
 import java.lang.reflect.Modifier;
+import java.nio.file.Files;
 import java.util.Set;
 import java.util.TreeSet;
+import java.util.regex.Matcher;
+import java.util.regex.Pattern;
 
 /** The public face is the document's, with nothing beside it. */
 public final class FaceTest {
-    private static final String[] FACE = {
-        "int feed(int,int,int,int,int)", "int catalogue(int) IllegalArgumentException", "int fault()",
-        "int count(int) NoSuchElementException", "int card(int,int) NoSuchElementException",
-        "int clerk(int,int) NoSuchElementException", "int key(int,int,int) NoSuchElementException",
-        "boolean before(int,int,int) NoSuchElementException", "int rank(int,int) NoSuchElementException",
-        "int at(int,int) NoSuchElementException", "int drawer(int) NoSuchElementException",
-        "int put(int,int) NoSuchElementException", "int take(int) NoSuchElementException",
-        "int move(int,int) NoSuchElementException", "int file(int) NoSuchElementException", "int undo()",
-        "int differ(int,int,int) NoSuchElementException", "int votes(int,int) NoSuchElementException", "int ring()",
-        "int head()", "int stay(int) NoSuchElementException", "int stays(int) NoSuchElementException",
-        "int search(int,int,int) NoSuchElementException", "int could()", "int explained()",
-        "int telling(int) NoSuchElementException", "int matters(int,int) NoSuchElementException", "int sees()",
-        "int reader(int,int,int) NoSuchElementException IllegalArgumentException",
-        "int game(int,int,int,int) NoSuchElementException IllegalArgumentException",
-        "int years(int,int,int) NoSuchElementException IllegalArgumentException",
-        "int compromise(int) NoSuchElementException", "int agreed()", "int closest(int) NoSuchElementException",
-        "int off(int,int) NoSuchElementException", "int worst(int,int) NoSuchElementException",
-        "int trays(int,int,int) NoSuchElementException IllegalArgumentException", "void image()", "boolean restore()",
-    };
+    private static final Pattern METHOD = Pattern.compile("public (\\w+) (\\w+)\\((.*)\\)(?: throws (.*))?;");
+
+    /** As 'int put(int,int) NoSuchElementException', of each method that the document shows. */
+    private static Set<String> documentFace() throws IOException {
+        Set<String> face = new TreeSet<>();
+        String document = Files.readString(Sentences.DOCUMENT);
+        Matcher matcher = METHOD.matcher(document.substring(document.indexOf("```java"), document.indexOf("## Terms")));
+        while (matcher.find()) {
+            String parameters = matcher.group(3).replaceAll("(\\w+) \\w+", "$1").replace(" ", "");
+            String thrown = matcher.group(4) == null ? "" : " " + matcher.group(4).replace(",", "");
+            face.add(matcher.group(1) + " " + matcher.group(2) + "(" + parameters + ")" + thrown);
+        }
+        return face;
+    }
 
     private static String shown(Method method) {
         StringBuilder text = new StringBuilder();
@@ -40,33 +39,54 @@ public final class FaceTest {
         return text.toString();
     }
 
-    public static void main(String[] args) {
-        Check check = new Check();
+    private static void methods(Check check) throws IOException {
         Set<String> face = new TreeSet<>();
-        Set<String> names = new TreeSet<>();
         for (Method method : MeerDrawers.class.getDeclaredMethods()) {
             if (!Modifier.isPrivate(method.getModifiers())) {
                 face.add(shown(method));
-                names.add(method.getName());
+                check.holds(method.getName() + " is public, and no class's", Modifier.isPublic(method.getModifiers())
+                        && !Modifier.isStatic(method.getModifiers()));
             }
         }
-        for (String due : FACE) {
-            check.due("the face has " + due, 1, () -> face.contains(due) ? 1 : 0);
+        Set<String> due = documentFace();
+        check.due("methods that the document shows", 39, due::size);
+        for (String method : due) {
+            check.holds("the face has " + method, face.contains(method));
         }
-        check.due("methods of the face", FACE.length, face::size);
-        for (Method method : MeerDrawers.class.getDeclaredMethods()) {
-            boolean hides = Modifier.isPrivate(method.getModifiers()) && names.contains(method.getName());
-            check.due("a private method bears a public name: " + method.getName(), 0, () -> hides ? 1 : 0);
+        for (String method : face) {
+            check.holds("the document has " + method, due.contains(method));
         }
+    }
+
+    private static void fieldsAndConstructor(Check check) throws NoSuchFieldException {
         for (Field field : MeerDrawers.class.getDeclaredFields()) {
-            boolean open = !Modifier.isPrivate(field.getModifiers()) && !field.getName().equals("NONE");
-            check.due("a field is open: " + field.getName(), 0, () -> open ? 1 : 0);
+            check.holds("a field is open: " + field.getName(),
+                    Modifier.isPrivate(field.getModifiers()) || field.getName().equals("NONE"));
         }
+        Field none = MeerDrawers.class.getDeclaredField("NONE");
+        check.holds("NONE is a public constant of int", none.getType() == int.class
+                && Modifier.isPublic(none.getModifiers()) && Modifier.isStatic(none.getModifiers())
+                && Modifier.isFinal(none.getModifiers()));
+        check.due("NONE", -1, () -> MeerDrawers.NONE);
         Constructor<?>[] made = MeerDrawers.class.getDeclaredConstructors();
         check.due("constructors", 1, () -> made.length);
         check.due("parameters of the constructor", 0, () -> made[0].getParameterCount());
-        check.due("NONE", -1, () -> MeerDrawers.NONE);
-        check.due("final", 1, () -> Modifier.isFinal(MeerDrawers.class.getModifiers()) ? 1 : 0);
+        check.holds("the constructor is public", Modifier.isPublic(made[0].getModifiers()));
+    }
+
+    private static void theClass(Check check) {
+        check.holds("final", Modifier.isFinal(MeerDrawers.class.getModifiers()));
+        check.holds("public", Modifier.isPublic(MeerDrawers.class.getModifiers()));
+        check.holds("without a package", MeerDrawers.class.getPackageName().isEmpty());
+        check.holds("of no other class", MeerDrawers.class.getSuperclass() == Object.class);
+        check.due("no interfaces", 0, () -> MeerDrawers.class.getInterfaces().length);
+    }
+
+    public static void main(String[] args) throws IOException, NoSuchFieldException {
+        Check check = new Check();
+        methods(check);
+        fieldsAndConstructor(check);
+        theClass(check);
         check.end();
     }
 }
