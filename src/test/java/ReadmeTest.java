@@ -1,4 +1,6 @@
 import java.io.IOException;
+import java.lang.reflect.Method;
+import java.lang.reflect.Modifier;
 import java.nio.charset.StandardCharsets;
 import java.nio.file.Files;
 import java.nio.file.Path;
@@ -15,7 +17,6 @@ public final class ReadmeTest {
     private static final Check CHECK = new Check();
     private static final Pattern BLOCK = Pattern.compile("(?s)```(\\w+)\n(.*?)```");
     private static final Pattern SHOWN = Pattern.compile("(?m)show\\(.*\\);\\s*// ([^:]+): ");
-    private static final Pattern SIGNATURE = Pattern.compile("public (?:int|boolean|void) (\\w+)\\((.*?)\\)");
 
     private final String readme;
     private final Path place;
@@ -108,14 +109,23 @@ public final class ReadmeTest {
         }
     }
 
-    private void theCalls() throws IOException {
+    private static String shown(String name, int parameters) {
+        return name + " of " + parameters;
+    }
+
+    private void theCalls() {
         Set<String> due = new TreeSet<>();
-        String document = Files.readString(Sentences.DOCUMENT);
-        Matcher matcher = SIGNATURE.matcher(document.substring(0, document.indexOf("## Terms")));
-        while (matcher.find()) {
-            due.add(matcher.group(1) + "(" + matcher.group(2).replace("int ", "") + ")");
+        for (Method method : MeerDrawers.class.getDeclaredMethods()) {
+            if (Modifier.isPublic(method.getModifiers())) {
+                due.add(shown(method.getName(), method.getParameterCount()));
+            }
         }
-        alike("calls", due, new TreeSet<>(found(Pattern.compile("(?m)^\\| `(.*?)` \\|"), 1, readme)));
+        Set<String> said = new TreeSet<>();
+        Matcher matcher = Pattern.compile("(?m)^\\| `(\\w+)\\((.*?)\\)` \\|").matcher(readme);
+        while (matcher.find()) {
+            said.add(shown(matcher.group(1), matcher.group(2).isEmpty() ? 0 : matcher.group(2).split(",").length));
+        }
+        alike("calls", due, said);
     }
 
     private void theTestsAreListed() throws IOException {
