@@ -83,7 +83,7 @@ final class DocumentOfTexts {
     /** The second of two cards is the less one just if the expression counts what is due. */
     private static void counts(Sentences doc, String expression, int due) {
         String number = due < 0 ? "(0-" + -due + ")" : String.valueOf(due);
-        MeerDrawers x = Check.told("card 1 a;card 1 a;clerk;tie ((" + expression + ")=" + number + ")*(1-number);");
+        MeerDrawers x = Check.told("card 1 a;card 1 a;clerk;tie (" + expression + ")=" + number + " and not number;");
         doc.due(expression + " counts " + due, 1, () -> x.before(0, 1, 0) ? 1 : 0);
     }
 
@@ -106,7 +106,7 @@ final class DocumentOfTexts {
         doc.says("PART: NUMBER | VALUE | '(' EXPR ')'.");
         counts(doc, "(2+3)*(4-(1 or 0))", 15);
         counts(doc, "year*1000", 1000);
-        counts(doc, "(((7)))", 7);
+        counts(doc, "((((7))))", 7);
         doc.fault(1, "clerk;tie (1^;", "clerk;tie ^-1;", "clerk;tie (^);", "clerk;tie 1^(2);");
         doc.says("From the left; ints that wrap, / cut down to 0, by 0 gives 0;");
         counts(doc, "20-5-3", 12);
